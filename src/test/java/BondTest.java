@@ -182,6 +182,11 @@ public final class BondTest {
         x = Canals.on(Canals.WINDING);
         share(x, 0, 15, Canals.set(1, 2, 3, 4, 9, 14, 13, 12), 1, 256);
         share(x, 0, 15, Canals.set(12, 13, 14, 15, 16, 17, 18, 19), 1, 16);
+        share(x, 0, 4, Canals.set(5, 6, 7, 8, 16, 17, 18, 19), 1, 1);
+        share(x, 0, 16, Canals.set(5, 6, 7, 8, 16, 17, 18, 19), 0, 1);
+        x.freeze(10, 0);
+        share(x, 5, 4, 0, 1, 1);
+        share(x, 5, 4, Canals.set(1, 2), 1, 4);
     }
 
     private static void oddsOfWhatBreaks() {

@@ -13,8 +13,10 @@ public final class DeedTest {
         deedWears();
         deedRefusals();
         deedFaults();
+        deedOnAllOfTheIce();
         write();
         writeRefusals();
+        writeFaults();
         nights();
         thaw();
         Due.end();
@@ -92,6 +94,34 @@ public final class DeedTest {
         Due.is("left at the end", x.deed(0, 1, 4, 0, 2, 3, 1, 0), 3);
     }
 
+    private static void deedOnAllOfTheIce() {
+        Due.part("promises 7 and 8, 4 rows of 5");
+        SkateBonds x = Canals.on("c450;99999;99999;99999;99995,s1,k1");
+        Canals.row(x, 0, 2, 0, 1, 2, 3, 0);
+        for (int c = 15; c < 20; c++) {
+            Due.is("down from " + c, x.deed(0, 1, c, 0, 2, 2, 1, 0), -100);
+            Due.is("up from " + c, x.deed(0, 1, c, 0, 2, 0, 1, 0), c - 5);
+        }
+        Due.is("to the last cell", x.deed(0, 1, 18, 0, 2, 1, 1, 3), 4);
+        Due.is("to the last cell", x.deed(0, 1, 18, 0, 2, 1, 1, 2), Canals.set(19));
+        Due.is("to the last cell", x.write(0, 1, 18, 0, 2, 1, 1), 1);
+        Due.is("strength(19)", x.strength(19), 4);
+        Canals.take(x, "c450;99999;99999;99999;99999,s1,k1");
+        Canals.take(x, "c220;99;99,s1,k1");
+        Due.is("no row is left of larger ice", x.deed(0, 1, 2, 0, 2, 2, 1, 0), -100);
+        Due.is("no bond leads over it", x.neck(0, 1, 0, 3), SkateBonds.NONE);
+        Due.is("none is alone on it", x.alone(0, 0), 15);
+        Due.is("no night is on it", x.nights(1), 4);
+        Canals.take(x, "c450;99999;99999;99999;99999,s1,k1");
+        Canals.take(x, "c340;9999;9999;9999,s1,k1");
+        for (int c = 0; c < 12; c++) {
+            boolean isFirst = c % 4 == 0;
+            boolean isLast = c % 4 == 3;
+            Due.is("left from " + c, x.deed(0, 1, c, 0, 2, 3, 1, 0), isFirst ? -100 : c - 1);
+            Due.is("right from " + c, x.deed(0, 1, c, 0, 2, 1, 1, 0), isLast ? -100 : c + 1);
+        }
+    }
+
     private static void deedWears() {
         Due.part("promise 7, CUT");
         SkateBonds x = Canals.on("c120;24,s2,s2");
@@ -143,9 +173,13 @@ public final class DeedTest {
         for (int[] f : faults) {
             Due.is("sheet, lane, i, n", x.deed(0, 1, 3, f[0], f[1], f[2], f[3], 1), -10 - f[4]);
             Due.is("fault()", x.fault(), f[4]);
-            Due.is("written", x.write(0, 1, 3, f[0], f[1], f[2], f[3]), -10 - f[4]);
-            Due.is("fault()", x.fault(), f[4]);
         }
+        Due.is("what 5", x.deed(0, 1, 3, 0, 0, 1, 1, 5), SkateBonds.OUTSIDE);
+        Due.is("fault()", x.fault(), 0);
+        x.deed(0, 1, 3, 1, 0, 0, 0, 0);
+        Due.is("what 5, no cell", x.deed(0, 1, 12, 0, 0, 1, 1, 5), SkateBonds.UNKNOWN);
+        Due.is("fault()", x.fault(), 0);
+        x.deed(0, 1, 3, 1, 0, 0, 0, 0);
         Due.is("at the end", x.deed(0, 1, 3, 0, 0, 11, 0, 0), 3);
         Due.is("fault()", x.fault(), 0);
         x.deed(0, 1, 3, 0, 1, 0, 1, 0);
@@ -185,6 +219,27 @@ public final class DeedTest {
         Due.is("no stroke behind good ones", x.write(0, 1, 6, 0, 0, 8, 2), SkateBonds.OUTSIDE);
         Due.is("fault()", x.fault(), 0);
         Due.is("strength(2)", x.strength(2), 3);
+    }
+
+    private static void writeFaults() {
+        Due.part("promise 8, faults");
+        SkateBonds x = withDeed();
+        int[][] faults = {
+            {0, 1, 99, 1, 2}, {1, 0, 99, 1, 1}, {0, 0, 11, 1, 3}, {0, 2, -1, 0, 2}, {0, 0, 12, 0, 3}, {1, 2, 0, 0, 1},
+            {0, 0, -1, 0, 3}, {0, 0, MAX, 40, 3},
+        };
+        for (int[] f : faults) {
+            Due.is("sheet, lane, i, n", x.write(0, 1, 3, f[0], f[1], f[2], f[3]), -10 - f[4]);
+            Due.is("fault()", x.fault(), f[4]);
+        }
+        Due.is("refused", x.write(0, 0, 3, 0, 0, 1, 1), SkateBonds.UNKNOWN);
+        Due.is("fault()", x.fault(), 0);
+        x.write(0, 1, 3, 1, 0, 0, 0);
+        Due.is("a first wrong", x.write(0, 1, 3, 0, 0, 1, 7), -106);
+        Due.is("fault()", x.fault(), 0);
+        x.write(0, 1, 3, 1, 0, 0, 0);
+        Due.is("done", x.write(0, 1, 3, 0, 0, 1, 6), 6);
+        Due.is("fault()", x.fault(), 0);
     }
 
     private static void nights() {

@@ -78,7 +78,7 @@ public final class ModelTest {
         int skaters = from(2, 4);
         int heaviest = from(1, 9);
         for (int a = 0; a < skaters; a++) {
-            text.append(',').append("skb".charAt(upTo(3))).append(from(1, heaviest));
+            text.append(',').append("sskkb".charAt(upTo(5))).append(from(1, heaviest));
         }
         switch (upTo(8)) {
             case 0: text.setLength(upTo(text.length())); break;
@@ -99,12 +99,29 @@ public final class ModelTest {
         same("canal of " + text, x.canal(k, lane, ahead, n), y.canal(k, lane, ahead, n));
     }
 
-    private void makeStrokes() {
-        int[] strokes = new int[from(1, 12)];
+    /** Strokes from a cell on that seldom lead off the ice. */
+    private void makeStrokes(int c) {
+        int wide = Math.max(1, y.many(2));
+        int[] strokes = new int[from(8, 16)];
+        int at = c;
         for (int i = 0; i < strokes.length; i++) {
-            strokes[i] = upTo(40) == 0 ? mostly(0, 3) : upTo(4);
+            int stroke = upTo(4);
+            for (int look = 0; look < 4 && !staysOn(at, stroke, wide); look++) {
+                stroke = (stroke + 1) % 4;
+            }
+            at += new int[] {-wide, 1, wide, -1}[stroke];
+            strokes[i] = upTo(60) == 0 ? mostly(0, 3) : stroke;
         }
         fill(3, 2, 0, strokes);
+    }
+
+    private boolean staysOn(int at, int stroke, int wide) {
+        switch (stroke) {
+            case 0: return at >= wide;
+            case 1: return at % wide < wide - 1;
+            case 2: return at + wide < y.many(1);
+            default: return at % wide > 0;
+        }
     }
 
     private void fill(int k, int lane, int ahead, int[] numbers) {
@@ -177,15 +194,15 @@ public final class ModelTest {
     }
 
     private void someDeed() {
-        if (upTo(3) == 0) {
-            makeStrokes();
-        }
         int a = skater();
         int b = other(a);
         int c = cell();
-        int k = upTo(10) == 0 ? mostly(0, 3) : 3;
-        int lane = upTo(10) == 0 ? mostly(0, 2) : 2;
-        int i = upTo(10) == 0 ? mostly(0, 60) : upTo(4);
+        if (upTo(3) > 0) {
+            makeStrokes(c);
+        }
+        int k = upTo(20) == 0 ? mostly(0, 3) : 3;
+        int lane = upTo(20) == 0 ? mostly(0, 2) : 2;
+        int i = upTo(6) == 0 ? mostly(0, 60) : 0;
         int n = upTo(10) == 0 ? mostly(0, 40) : upTo(9);
         String told = "(" + a + ", " + b + ", " + c + ", " + k + ", " + lane + ", " + i + ", " + n;
         for (int what = 0; what <= 4; what++) {
