@@ -127,9 +127,28 @@ public final class RulesTest {
         }
         Due.holds("an object is made in fields and constructors alone", madeElsewhere(code).isEmpty());
         String[] lines = whole.split("\n");
+        shortMethods(lines);
         for (int k = 0; k < lines.length; k++) {
             Due.holds("line " + (k + 1) + " is at most 120 long", lines[k].length() <= 120);
         }
+    }
+
+    /** Rule 11: methods of some sixty lines at most. */
+    private static void shortMethods(String[] lines) {
+        Pattern begins = Pattern.compile("( {4}| {8})(public|private) [^;=]*\\{");
+        int methods = 0;
+        for (int k = 0; k < lines.length; k++) {
+            if (begins.matcher(lines[k]).matches() && !lines[k].contains(" class ")) {
+                String end = lines[k].substring(0, lines[k].indexOf('p')) + "}";
+                int last = k;
+                while (last < lines.length && !lines[last].equals(end)) {
+                    last++;
+                }
+                Due.holds("the method at line " + (k + 1) + " is short", last - k <= 60);
+                methods++;
+            }
+        }
+        Due.holds("methods are found", methods > 60);
     }
 
     /** Lines that make an object and are neither a field's nor the constructor's. */
