@@ -13,7 +13,7 @@ import java.util.Set;
 import java.util.TreeSet;
 import java.util.regex.Pattern;
 
-/** The public face of the document, and the rules of LANGUAGE.md that can be read off the class and its source. */
+/** The public face of the document, and the rules of LANGUAGE.md that can be read off the class and the text of its source. */
 public final class RulesTest {
     private static final String[] FACE = {
         "int canal(int, int, int, int)", "int ofSkater(int, int)", "int strength(int)", "int freeze(int, int)",
@@ -125,7 +125,6 @@ public final class RulesTest {
         for (String words : barred) {
             Due.holds("no " + words, !Pattern.compile(words).matcher(code).find());
         }
-        Due.holds("an object is made in fields and constructors alone", madeElsewhere(code).isEmpty());
         String[] lines = whole.split("\n");
         shortMethods(lines);
         for (int k = 0; k < lines.length; k++) {
@@ -149,18 +148,5 @@ public final class RulesTest {
             }
         }
         Due.holds("methods are found", methods > 60);
-    }
-
-    /** Lines that make an object and are neither a field's nor the constructor's. */
-    private static List<String> madeElsewhere(String code) {
-        List<String> found = new ArrayList<>();
-        for (String line : code.split("\n")) {
-            boolean isKnown = line.startsWith("    private ") || line.startsWith("        private ")
-                || line.contains("sheets[k] = new Sheet();");
-            if (Pattern.compile("\\bnew [A-Za-z]").matcher(line).find() && !isKnown) {
-                found.add(line);
-            }
-        }
-        return found;
     }
 }
