@@ -8,6 +8,9 @@ import java.util.List;
  * object.
  */
 final class Look {
+    /** So many numbers or READINGS there never are; of a class that is wrong a look must end, too. */
+    private static final int BEYOND = 100;
+
     /** SkateBonds or PlainBonds. */
     private final Object x;
     private final List<String> seen = new ArrayList<>();
@@ -57,18 +60,16 @@ final class Look {
     }
 
     private void numbers(int k, int lane) {
-        int i = 0;
         long number = Calls.ask(x, "cell", k, 0, lane);
-        while (number != SkateBonds.LOST) {
+        for (int i = 0; i < BEYOND && number != SkateBonds.LOST; i++) {
             seen.add("cell " + i + " of sheet " + k + " = " + number);
-            i++;
-            number = Calls.ask(x, "cell", k, i, lane);
+            number = Calls.ask(x, "cell", k, i + 1, lane);
         }
     }
 
     private void readings() {
         follows();
-        for (long left = Calls.ask(x, "many", 4); left > 0; left--) {
+        for (long left = Math.min(BEYOND, Calls.ask(x, "many", 4)); left > 0; left--) {
             see("back", 1);
             follows();
         }
